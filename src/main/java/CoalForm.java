@@ -33,7 +33,7 @@ public final class CoalForm {
     private final Form[] forms;
     private int formCount;
     private final int[] hits;
-    private final long[] weights;
+    private final long[] flows;
 
     public CoalForm(int facts) {
         int nearest = Math.max(1, Math.min(MOST_FACTS, facts));
@@ -49,7 +49,7 @@ public final class CoalForm {
         laws = new Law[MOST_LAWS];
         forms = new Form[MOST_FORMS];
         hits = new int[grid.cases];
-        weights = new long[MOST_PIECES];
+        flows = new long[MOST_PIECES];
     }
 
     // ---- texts ----
@@ -466,27 +466,27 @@ public final class CoalForm {
     private long offOn(Form form, Law law, int cases, int alwaysRight) {
         // Twelve nodes at most stand on a way, so that each tenth of 10 to the 12 is whole.
         for (int node = 0; node < MOST_PIECES; node++) {
-            weights[node] = 0;
+            flows[node] = 0;
         }
-        weights[0] = 1000000000000L;
+        flows[0] = 1000000000000L;
         long sum = 0;
         for (int node = 0; node < form.nodes; node++) {
             int fact = form.facts[node];
-            long wrong = fact == alwaysRight ? 0 : weights[node] / TEN * settings.wrongs[fact];
+            long wrong = fact == alwaysRight ? 0 : flows[node] / TEN * settings.wrongs[fact];
             boolean so = (cases >> fact & 1) != 0;
-            long yes = so ? weights[node] - wrong : wrong;
+            long yes = so ? flows[node] - wrong : wrong;
             sum += offBehind(form.yes[node], yes, law.said[cases]);
-            sum += offBehind(form.no[node], weights[node] - yes, law.said[cases]);
+            sum += offBehind(form.no[node], flows[node] - yes, law.said[cases]);
         }
         return sum;
     }
 
-    private long offBehind(int target, long weight, int said) {
+    private long offBehind(int target, long flow, int said) {
         if (target >= 0 && target < MOST_PIECES) {
-            weights[target] += weight;
+            flows[target] += flow;
             return 0;
         }
-        return target - Form.SAID == said ? 0 : weight;
+        return target - Form.SAID == said ? 0 : flow;
     }
 
     // ---- changed laws ----
@@ -572,7 +572,7 @@ public final class CoalForm {
 
     public int chart(int law, int order, int what) {
         Law wanted = lawAt(law);
-        if (wanted == null || what < 0 || what > 1 || !charts.isOrder(order)) {
+        if (wanted == null || what < 0 || what > 1 || !charts.keepOrder(order)) {
             return NONE;
         }
         return charts.boxesInOrder(wanted, what == 1);
@@ -589,7 +589,7 @@ public final class CoalForm {
 
     public int straight(int law, int order, int cases) {
         Law wanted = lawAt(law);
-        if (wanted == null || cases != NONE && !grid.isCase(cases) || !charts.isOrder(order)) {
+        if (wanted == null || cases != NONE && !grid.isCase(cases) || !charts.keepOrder(order)) {
             return NONE;
         }
         if (cases != NONE) {
@@ -1402,6 +1402,7 @@ public final class CoalForm {
             }
             int pair = no * side + yes;
             if (pair < 0 || pair >= stamps.length) {
+                // Never so, by the side of the table: a way of its own would only count a box too many.
                 return nextWay++;
             }
             if (stamps[pair] != stamp) {
@@ -1434,7 +1435,7 @@ public final class CoalForm {
         }
 
         /** Whether a number is an order of all facts; it is kept then. */
-        boolean isOrder(int number) {
+        boolean keepOrder(int number) {
             int left = number;
             int seen = 0;
             for (int k = grid.facts - 1; k >= 0 && left >= 0; k--) {

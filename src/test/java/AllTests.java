@@ -15,6 +15,7 @@ final class AllTests {
         PaperTests.all();
         ChartTests.all();
         RulingTests.all();
+        RoomTests.all();
         FuzzTests.all();
         System.out.println(Check.passed + " passed, " + Check.failed + " failed");
         if (Check.failed != 0) {

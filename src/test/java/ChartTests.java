@@ -9,6 +9,7 @@ final class ChartTests {
         promise43();
         oneFact();
         nineFacts();
+        manyWays();
     }
 
     private static CoalForm example() {
@@ -110,5 +111,34 @@ final class ChartTests {
         Check.due("35: by the lowest order", x.least(0, 1), order);
         Check.due("43: five are enough", x.straight(0, order, 31), 5);
         Check.due("43: all nine", x.straight(0, order, -1), 9);
+    }
+
+    /** With seven facts known it goes on in as many ways as there can be (128), or in 64 and g never matters. */
+    private static void manyWays() {
+        String text = "0:h&i&a&b;1:h&i&a;2:h&i&b;0:h&!i&c&d;1:h&!i&c;2:h&!i&d;0:i&!h&e&f;1:i&!h&e;2:i&!h&f";
+        CoalForm x = new CoalForm(9);
+        Plain plain = new Plain(9);
+        for (int law = 0; law < 2; law++) {
+            plain.tape = law == 0 ? text + ";3:g&!h&!i" : text;
+            Check.due("5: a long law", Check.law(x, plain.tape), plain.text(0));
+        }
+        int[][] orders = {{0, 1, 2, 3, 4, 5, 6, 7, 8}, {6, 5, 4, 3, 2, 1, 0, 8, 7}, {7, 8, 0, 1, 2, 3, 4, 5, 6},
+            {0, 7, 1, 8, 2, 3, 6, 4, 5}};
+        for (int[] order : orders) {
+            int number = 0;
+            for (int fact : order) {
+                number = number * 9 + fact;
+            }
+            byOrder(x, plain, 0, number);
+            byOrder(x, plain, 1, number);
+        }
+        Check.due("35: its order has so many", x.chart(0, x.least(0, 1), 0), x.least(0, 0));
+    }
+
+    private static void byOrder(CoalForm x, Plain plain, int law, int order) {
+        Check.due("34: many ways by " + order, x.chart(law, order, 0), plain.chart(law, order, 0));
+        Check.due("34: widest by " + order, x.chart(law, order, 1), plain.chart(law, order, 1));
+        Check.due("35: no more than by " + order, x.least(law, 0) <= x.chart(law, order, 0), true);
+        Check.due("43: many ways by " + order, x.straight(law, order, -1), plain.straight(law, order, -1));
     }
 }

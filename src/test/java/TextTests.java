@@ -142,6 +142,10 @@ final class TextTests {
     static void faultsOfQuestions() {
         fault(3, 1, "", 0);
         fault(3, 1, " a ", -1);
+        fault(3, 1, repeated(" ", 160), 160);
+        fault(3, 1, repeated(" ", 159) + "a", -1);
+        fault(3, 1, repeated("a&", 79) + "!a", -1);
+        fault(3, 1, repeated("a|", 80), 160);
         fault(3, 1, "aub", 1);
         fault(3, 1, "a;b", 1);
         fault(3, 1, "1:a", 1);
