@@ -19,6 +19,7 @@ final class EdgeFormTests {
         longest();
         off();
         wrongByTenths();
+        reached();
         weak();
     }
 
@@ -53,14 +54,18 @@ final class EdgeFormTests {
             edge.due("form " + k + " is there", Edge.leads(none, k, 511), k);
         }
         edge.due("511 is the last case", Edge.leads(none, 0, 512), Edge.THROWN);
+        edge.due("six forms are the most", Edge.leads(none, 6, 511), Edge.THROWN);
         Edge from = Edge.of(13, "A FORM SAYS on a CASE what its TARGETS lead to from NODE 0.");
-        CoalForm x = of(2, CHAIN, "a>11,=0;" + "b>=2,=2;".repeat(10) + "b>=5,=4", "a>=-,=0");
+        CoalForm x = of(2, CHAIN, "a>11,=0;" + "b>=2,=2;".repeat(10) + "b>=5,=4", "a>=-,=0",
+                "a>=-,=0;" + "b>=2,=2;".repeat(10) + "b>=5,=4");
         from.due("node 0 alone", Edge.leads(x, 0, 1), 0);
         from.due("all twelve nodes", Edge.leads(x, 0, 2), 5);
         from.due("from the first to the last", Edge.leads(x, 1, 3), 5);
         from.due("the last, if not", Edge.leads(x, 1, 1), 4);
         from.due("nothing", Edge.leads(x, 2, 1), -1);
         from.due("0 is not nothing", Edge.leads(x, 2, 0), 0);
+        from.due("nothing, of twelve nodes", Edge.leads(x, 3, 1), -1);
+        from.due("nothing is no node", x.unused(3), 4094);
     }
 
     // ---- promise 14 ----
@@ -81,6 +86,11 @@ final class EdgeFormTests {
             edge.due("one, " + i, x.apart(1, 0, i), i == -1 ? 1 : i == 0 ? 7 : -1);
             edge.due("all, " + i, x.apart(2, 1, i), i == -1 ? 8 : i < 8 ? i : -1);
         }
+        CoalForm nine = of(9, "a>=2,=2");
+        Check.law(nine, "1:a");
+        edge.due("all of 512", nine.apart(0, 0, -1), 512);
+        edge.due("the last of 512", nine.apart(0, 0, 511), 511);
+        edge.due("one behind the last of 512", nine.apart(0, 0, 512), -1);
         edge.refused("the last form, the last law", 7, y -> y.apart(1, 2, -1));
         edge.refused("a form behind the last", -1, y -> y.apart(2, 0, -1));
         edge.refused("a law behind the last", -1, y -> y.apart(0, 3, -1));
@@ -107,7 +117,11 @@ final class EdgeFormTests {
         edge.due("none, though told otherwise", x.unlike(0, 4), -1);
         edge.due("one form", x.unlike(2, 2), -1);
         edge.due("the first two of all that are unlike", x.unlike(1, 3), 0);
-        edge.refused("the first and the last", 1, y -> y.unlike(0, 1) + 1);
+        String eight = "a>1,=1;b>2,=1;c>3,=1;d>4,=1;e>5,=1;f>6,=1;g>7,=1;h>8,=1;i>";
+        CoalForm nine = of(9, eight + "=2,=1", eight + "=3,=1", eight + "=2,=3");
+        edge.due("the last of 512 alone", nine.unlike(0, 1), 511);
+        edge.due("the last but 256", nine.unlike(0, 2), 255);
+        edge.refused("the first and the last", 0, y -> y.unlike(0, 1));
         edge.refused("one behind the last", -1, y -> y.unlike(2, 0));
         edge.refused("other behind the last", -1, y -> y.unlike(0, 2));
         edge.refused("one ahead of the first", -1, y -> y.unlike(-1, 0));
@@ -128,6 +142,7 @@ final class EdgeFormTests {
         Check.law(x, "1:a&b");
         Check.law(x, "0:a|!a");
         Check.law(x, "3:a");
+        Check.form(x, "a>=-,1;b>=-,=-");
         edge.due("none of twelve", x.spoiled(0, 0), 0);
         edge.due("the twelfth", x.spoiled(0, 1), 2048);
         edge.due("the first and the last", x.spoiled(0, 2), 2049);
@@ -135,6 +150,9 @@ final class EdgeFormTests {
         edge.due("nothing for 0: both", x.spoiled(1, 3), 3);
         edge.due("the second alone", x.spoiled(1, 1), 2);
         edge.due("a target to which no case leads", x.spoiled(2, 4), 0);
+        Check.law(x, "1:!a&!b");
+        edge.due("on the first case alone", x.spoiled(3, 5), 2);
+        edge.due("on the last case alone", x.spoiled(3, 2), 1);
         Edge no = Edge.of(16, "SPOILED, as bits. NONE: no such ones.");
         no.refused("the last form, the last law", 7, y -> y.spoiled(1, 2));
         no.refused("a form behind the last", -1, y -> y.spoiled(2, 0));
@@ -225,6 +243,7 @@ final class EdgeFormTests {
         x.set(0, 1, 3);
         edge.due("now the other one", x.longest(2), 102);
         edge.due("a way that no case goes", x.longest(3), 198);
+        edge.due("the first case alone", of(1, CHAIN).longest(0), 12);
         Edge no = Edge.of(26, "COST of a FORM: WORST. NONE: no such one.");
         no.refused("the last form", 6, y -> y.longest(1));
         no.refused("a form behind the last", -1, y -> y.longest(2));
@@ -281,6 +300,20 @@ final class EdgeFormTests {
         }
     }
 
+    private static void reached() {
+        Edge edge = Edge.of(29, "how likely the FORM says otherwise than the LAW on that CASE");
+        CoalForm x = of(2, "a>1,1;b>=1,=0", "a>2,1;a>2,2;b>=1,=-", "a>=-,=0;" + "b>=2,=2;".repeat(10) + "b>=5,=4");
+        Check.law(x, "1:b");
+        x.set(3, 0, 3);
+        edge.due("a node that is reached either way: rightly", x.off(0, 0, 2), 0);
+        edge.due("from three sides", x.off(1, 0, 3), 0);
+        x.set(3, 1, 2);
+        edge.due("wrongly from there", x.off(0, 0, 3), WHOLE / 5);
+        edge.due("from three sides, wrongly", x.off(1, 0, 0), WHOLE / 5);
+        edge.due("nothing, of twelve nodes", x.off(2, 0, 1), WHOLE / 10 * 3);
+        edge.due("0 for 1, or nothing", x.off(2, 0, 3), WHOLE);
+    }
+
     // ---- promise 30 ----
 
     private static void weak() {
@@ -298,6 +331,16 @@ final class EdgeFormTests {
         x.set(3, 8, 10);
         x.set(3, 0, 10);
         edge.due("both are always wrong", x.weak(0, 0), 0);
+        CoalForm all = of(2, "a>=1,1;b>=2,=0");
+        Check.law(all, "1:a;2:b;0:!b");
+        all.set(3, 0, 1);
+        all.set(3, 1, 2);
+        edge.due("two cases in ten as bad as four in twenty: the lower", all.weak(0, 0), 0);
+        all.set(3, 1, 3);
+        edge.due("not by the last case alone", all.weak(0, 0), 1);
+        all.set(3, 0, 2);
+        all.set(3, 1, 3);
+        edge.due("not by the first case alone", all.weak(0, 0), 0);
         Edge no = Edge.of(30, "WEAK: the FACT. NONE: no such ones.");
         no.refused("the last form, the last law", 2, y -> y.weak(1, 2));
         no.refused("a form behind the last", -1, y -> y.weak(2, 0));

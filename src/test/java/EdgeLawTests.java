@@ -157,7 +157,16 @@ final class EdgeLawTests {
             edge.due("none is open, " + i, x.gap(1, 1, i), i == -1 ? 0 : -1);
             edge.due("two clash, " + i, x.gap(2, 0, i), i == -1 ? 2 : i == 0 ? 3 : i == 1 ? 7 : -1);
         }
-        edge.refused("what 0", 1, y -> y.gap(1, 0, -1) + 1);
+        CoalForm nine = of(9, "1:a&!a", "1:a|!a;2:a|!a");
+        for (int what = 0; what < 2; what++) {
+            edge.due("all of 512", nine.gap(1 - what, what, -1), 512);
+            edge.due("the first of 512", nine.gap(1 - what, what, 0), 0);
+            edge.due("the last of 512", nine.gap(1 - what, what, 511), 511);
+            edge.due("one behind the last of 512", nine.gap(1 - what, what, 512), -1);
+            edge.due("none of 512", nine.gap(what, what, -1), 0);
+            edge.due("the first of none", nine.gap(what, what, 0), -1);
+        }
+        edge.refused("what 0", 0, y -> y.gap(1, 0, -1));
         edge.refused("what 1", 2, y -> y.gap(1, 1, -1));
         edge.refused("what 2", -1, y -> y.gap(1, 2, -1));
         edge.refused("what -1", -1, y -> y.gap(1, -1, -1));
@@ -323,6 +332,13 @@ final class EdgeLawTests {
             edge.due("one, " + i, x.parts(0, 2, i), i == -1 ? 1 : i == 0 ? 0 : -1);
             edge.due("all, " + i, x.parts(3, 4, i), i == -1 ? 8 : i < 8 ? i : -1);
         }
+        CoalForm nine = of(9, "1:a&!a", "1:a|!a", "1:9#abcdefghi");
+        edge.due("all of 512", nine.parts(0, 1, -1), 512);
+        edge.due("the last of 512", nine.parts(1, 0, 511), 511);
+        edge.due("one behind the last of 512", nine.parts(1, 0, 512), -1);
+        edge.due("the last case alone", nine.parts(0, 2, 0), 511);
+        edge.due("all but the last case", nine.parts(1, 2, 510), 510);
+        edge.due("no more than these", nine.parts(1, 2, 511), -1);
         edge.refused("the first two laws", 6, y -> y.parts(0, 1, -1));
         edge.refused("the last law", 7, y -> y.parts(0, 2, 4));
         edge.refused("one behind the last", -1, y -> y.parts(3, 0, -1));
@@ -353,10 +369,12 @@ final class EdgeLawTests {
                 edge.due(one + " changed into " + other, x.mend(one, other), due[one][other]);
             }
         }
-        CoalForm y = of(2, "1:a", "2:b;".repeat(11) + "2:b", "1:a&!a;1:a", "1:a;1:a&!a");
+        CoalForm y = of(2, "1:a", "2:b;".repeat(11) + "2:b", "1:a&!a;1:a", "1:a;1:a&!a", "1:a;0:a&!a", "1:a|!a&!b");
         edge.due("all twelve", y.mend(0, 1), 4095);
         edge.due("the one", y.mend(1, 0), 1);
         edge.due("none, or one that never holds", y.mend(0, 3), 2);
+        edge.due("none, or one of 0 that never holds", y.mend(0, 4), 2);
+        edge.due("on the first case alone", y.mend(0, 5), 1);
         edge.due("what stands behind the last does not count", y.mend(3, 0), 0);
         edge.due("not by what is said, but by places", y.mend(3, 2), 3);
         Edge no = Edge.of(32, "MEND, as bits. NONE: no such ones.");
@@ -387,6 +405,12 @@ final class EdgeLawTests {
         edge.due("they meet where the first holds", x.swap(4, 1), 1);
         edge.due("the first meets the second there", x.swap(4, 0), 0);
         edge.due("they say the same", x.swap(5, 0), 1);
+        CoalForm more = of(2, "1:!a&!b;2:!a&!b", "1:a&!a;1:a;2:b;3:b", "4:!a;1:a&b;2:a&!b", "1:a&b;2:a&b");
+        edge.due("they meet on the first case alone", more.swap(0, 0), 0);
+        edge.due("they meet on the last case alone", more.swap(3, 0), 0);
+        edge.due("the second and the third meet, and others behind", more.swap(1, 1), 0);
+        edge.due("the second and the third never meet, and one ahead", more.swap(2, 1), 1);
+        edge.due("one ahead of these", more.swap(2, 0), 1);
         Edge no = Edge.of(33, "SWAP (1, 0). NONE: no such ones.");
         no.refused("two clauses", 1, y -> y.swap(0, 0));
         no.refused("i of the last", -1, y -> y.swap(0, 1));
@@ -437,13 +461,15 @@ final class EdgeLawTests {
 
     private static void offices() {
         Edge edge = Edge.of(41, "on how many CASES a LAW is READ otherwise so");
-        CoalForm x = of(9, "1:a&!i;2:i&!a", "1:a&i;1:a|i", "1:a&!i&b&c&d&e&f&g&h", "1:b&!h");
+        CoalForm x = of(9, "1:a&!i;2:i&!a", "1:a&i;1:a|i", "1:a&!i&b&c&d&e&f&g&h", "1:b&!h", "1:i");
         edge.due("one for the other", x.office(0, 0, 8), 256);
         edge.due("that for it", x.office(0, 8, 0), 256);
         edge.due("as well the other way", x.office(1, 0, 8), 0);
         edge.due("two of 512", x.office(2, 0, 8), 2);
         edge.due("neither matters", x.office(3, 0, 8), 0);
         edge.due("one of them matters", x.office(3, 0, 7), 128);
+        edge.due("the last alone matters", x.office(4, 8, 0), 256);
+        edge.due("the last alone matters, that for it", x.office(4, 0, 8), 256);
         Edge no = Edge.of(41, "OFFICE. NONE: no such ones, one FACT.");
         no.refused("the first and the last", 4, y -> y.office(0, 0, 2));
         no.refused("one fact, the first", -1, y -> y.office(0, 0, 0));

@@ -116,6 +116,9 @@ final class EdgePaperTests {
         CoalForm y = of(2, "1:a&b;2:a;3:b", "a&b", "a");
         edge.due("each of four says another thing: one from three", y.tells(0, 0), 3);
         edge.due("two from two", y.tells(1, 0), 4);
+        CoalForm z = of(2, "5:a&b;0:a", "a", "b");
+        edge.due("5 and 0 from nothing", z.tells(0, 0), 4);
+        edge.due("5 from 0 and nothing, not nothing from nothing", z.tells(1, 0), 3);
     }
 
     private static void noSuchQuestion() {

@@ -24,6 +24,8 @@ final class EdgePeopleTests {
         theMost();
         bestOfSeveral();
         noSuchOnes();
+        inAnyOrder();
+        changedBetween();
         people();
         below();
         goingRound();
@@ -384,6 +386,52 @@ final class EdgePeopleTests {
             nowhere(mean, "known far: " + far, 0, -1, far, 0);
             nowhere(mean, "so far: " + far, 0, -1, 1, far);
         }
+    }
+
+    /** What was asked before, and of what was known, changes no answer. */
+    private static void inAnyOrder() {
+        Edge edge = Edge.of(22, "To ask out a LAW (or two together: what both say) from what is KNOWN");
+        CoalForm x = State.filled();
+        for (int turn = 0; turn < 4; turn++) {
+            for (int k = 0; k < 27; k++) {
+                int place = turn == 0 ? 26 - k : turn == 1 ? k : turn == 2 ? k * 10 % 27 : k * 7 % 27;
+                int known = bits(place, 1) | bits(place, 2);
+                int so = bits(place, 2);
+                CoalForm fresh = State.filled();
+                int law = turn % 3;
+                int other = turn == 2 ? 0 : -1;
+                edge.due("mean at " + known + ", " + so, x.mean(law, other, known, so), fresh.mean(law, other, known, so));
+                edge.due("best at " + known + ", " + so, x.best(law, other, known, so, k % 2),
+                        State.filled().best(law, other, known, so, k % 2));
+                edge.due("worst at " + known + ", " + so, x.worst(law, other, known, so),
+                        State.filled().worst(law, other, known, so));
+            }
+        }
+    }
+
+    /** The facts of which a number to the base of three has this digit. */
+    private static int bits(int place, int digit) {
+        return (place % 3 == digit ? 1 : 0) | (place / 3 % 3 == digit ? 2 : 0) | (place / 9 % 3 == digit ? 4 : 0);
+    }
+
+    private static void changedBetween() {
+        Edge edge = Edge.of(22, "SHARE times MINUTES of all askings");
+        CoalForm x = of(2, "1:a", "1:b");
+        edge.due("no sorts", x.mean(0, -1, 0, 0), 0);
+        x.sort(1);
+        edge.due("a sort", x.mean(0, -1, 0, 0), 100);
+        x.sort(2);
+        edge.due("another sort", x.mean(0, -1, 0, 0), 300);
+        x.chance(1, 1, 0);
+        edge.due("b is so", x.mean(0, -1, 2, 2), 50);
+        x.chance(1, 1, 10);
+        edge.due("b is so more often", x.mean(0, -1, 2, 2), 250);
+        x.set(0, 0, 2);
+        edge.due("more minutes", x.mean(0, -1, 2, 2), 500);
+        x.set(2, 0, 1);
+        edge.due("barred", x.mean(0, -1, 2, 2), -1);
+        edge.due("another law", x.mean(1, -1, 2, 2), 0);
+        edge.due("both", x.mean(1, 0, 2, 2), -1);
     }
 
     // ---- promise 31 ----

@@ -6,6 +6,7 @@ final class EdgeTextTests {
     static void all() {
         nearestNumber();
         newObject();
+        lastCall();
         bytesOfNought();
         highestFirst();
         moreThan160();
@@ -78,6 +79,15 @@ final class EdgeTextTests {
         for (int c = 0; c < 4; c++) {
             wrong.due("none is wrong on " + c, x.off(0, 0, c), 0);
         }
+    }
+
+    private static void lastCall() {
+        Edge edge = Edge.of(1, "An object is used for at most 512 calls after it has been made");
+        CoalForm x = new CoalForm(1);
+        for (int k = 1; k < 512; k++) {
+            edge.due("call " + k, x.feed(0, 0, 0, 0, k <= 160 ? 'a' : 0), Math.min(k, 160));
+        }
+        edge.due("call 512", x.count(5), 160);
     }
 
     // ---- promise 2 ----
@@ -348,6 +358,13 @@ final class EdgeTextTests {
         fault(edge, 3, 1, "a&b|".repeat(39) + "a|b", -1);
         fault(edge, 3, 1, "!a|".repeat(52) + "!a|b", -1);
         fault(edge, 3, 1, "a|".repeat(79) + "a" + ")", 159);
+        CoalForm x = new CoalForm(3);
+        Check.put(x, "a&b|".repeat(39) + "a|b");
+        for (int k = 0; k < 5; k++) {
+            edge.due("told once more the same", x.fault(1), -1);
+            edge.due("told once more the same, as another", x.fault(0), 0);
+        }
+        edge.due("and it is one", x.text(1), 0);
     }
 
     private static void nodes() {
@@ -387,6 +404,8 @@ final class EdgeTextTests {
         fault(edge, 1, 2, "a>=,=-", 3);
         fault(edge, 1, 2, "a>=-,=", 6);
         fault(edge, 1, 2, "a>/,=-", 2);
+        fault(edge, 1, 2, "a>,x", 2);
+        fault(edge, 1, 2, "a>=6,x", 3);
         fault(edge, 1, 2, "a>:,=-", 2);
     }
 
@@ -408,6 +427,10 @@ final class EdgeTextTests {
             }
         }
         fault(last, 1, 2, "a>0", 2);
+        fault(last, 1, 2, "a>0x", 2);
+        fault(last, 1, 2, "a>0,x", 2);
+        fault(last, 1, 2, "a>12,x", 3);
+        fault(last, 1, 2, "a>=0,0x", 5);
         fault(last, 1, 2, "a>12", 3);
         fault(last, 1, 2, "a>11", 4);
         fault(last, 1, 2, "a>", 2);
@@ -551,6 +574,8 @@ final class EdgeTextTests {
         for (int sort : Edge.FAR) {
             no.refused("far: " + sort, -1, y -> y.text(sort));
         }
+        no.refusedAfter("sort 3, a form's text", -1, y -> Check.put(y, "a>=1,=0"), y -> y.text(3));
+        no.refusedAfter("sort -1, a question's text", -1, y -> Check.put(y, "a|b"), y -> y.text(-1));
         no.refusedAfter("a law that ends too early", -1, y -> y.end(4), y -> y.text(0));
         no.refusedAfter("a form of which a node is not there", -1, y -> Check.put(y, "a>1,=0"), y -> y.text(2));
         no.refusedAfter("a form's text is no law", -1, y -> Check.put(y, "a>=1,=0"), y -> y.text(0));
